@@ -188,9 +188,10 @@ public final class PlaneFills {
         if (step < 1 || step > GREATEST_STEP) {
             throw new IllegalArgumentException("no such step");
         }
-        int columns = columnsBelow((int) step, 1);
+        int every = (int) step;
+        int columns = columnsBelow(every, 1);
         int count = 0;
-        for (int y = 0; y < HEIGHT; y += (int) step) {
+        for (int y = 0; y < HEIGHT; y += every) {
             count += Integer.bitCount(columns & onTwoLayers(net, y));
         }
         return count;
