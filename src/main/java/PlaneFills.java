@@ -437,12 +437,8 @@ public final class PlaneFills {
     private boolean pieceHasPad(Plane plane) {
         for (int i = 0; i < pads.size(); i++) {
             Pad pad = pads.get(i);
-            if (pad.layer == plane.layer && pad.net == plane.net) {
-                for (int y = 0; y < HEIGHT; y++) {
-                    if ((pieces.group[y] & pad.near(y, 0)) != 0) {
-                        return true;
-                    }
-                }
+            if (pad.layer == plane.layer && pad.net == plane.net && pieces.meets(pad)) {
+                return true;
             }
         }
         return false;
@@ -789,6 +785,15 @@ public final class PlaneFills {
                 count += Integer.bitCount(group[y]);
             }
             return count;
+        }
+
+        private boolean meets(Pad pad) {
+            for (int y = first; y <= last; y++) {
+                if ((group[y] & pad.near(y, 0)) != 0) {
+                    return true;
+                }
+            }
+            return false;
         }
 
         private boolean comesToBorder() {
