@@ -478,6 +478,20 @@ public final class BoundaryTest extends Check {
             due("the last but one of spoke " + k + " is", "1111", () -> spokesFilled(g, 0));
         }
 
+        long[][] oneOff = {{30, 12}, {16, 22}, {1, 12}, {16, 1}};
+        for (int k = 0; k < 4; k++) {
+            long[] place = oneOff[k];
+            PlaneFills g = whole();
+            g.rule(MOAT, 4);
+            g.pad(1, 0, place[0], place[1], 1, 1);
+            g.fill();
+            due("spoke " + k + " reaches over the border, its cell on the board is filled", "1111", () -> spokesFilled(g, 0));
+            g.rule(GAP, 0);
+            g.pad(2, 0, g.spoke(0, k, 1), g.spoke(0, k, 2), 1, 1);
+            g.fill();
+            due("spoke " + k + " reaches over the border, its cell on the board is not", left[k], () -> spokesFilled(g, 0));
+        }
+
         says("the x (1) and y (2) of its CELL next to the PAD (also off the board, or when MOAT is 0)");
         due("at the first corner", "1,0 0,1 -1,0 0,-1", () -> spokeCells(f, 1));
         due("at the last corner", "32,23 31,24 30,23 31,22", () -> spokeCells(f, 2));

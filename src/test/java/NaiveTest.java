@@ -43,6 +43,14 @@ public final class NaiveTest {
         return kind == 1 ? (1L << 32) + random(20) : number(least, most);
     }
 
+    /** As wide, but often near a border of the board, where moats, gaps and spokes reach over it. */
+    private static long nearBorder(int most) {
+        if (random(3) > 0) {
+            return wide(0, most);
+        }
+        return random(2) == 0 ? random(4) : most - random(4);
+    }
+
     private String answer(boolean naive, int call, long[] v) {
         try {
             return naive ? naiveAnswer(call, v) : answer(call, v);
@@ -170,7 +178,7 @@ public final class NaiveTest {
                 int kind = number(0, 3);
                 both(run, call, kind, kind == 3 ? wide(0, random(5) == 0 ? 1000 : 60) : kind == 2 ? wide(1, 5) : wide(0, 5 - (kind & 1)));
                 break;
-            case 5: both(run, call, net(), layer(), wide(0, 31), wide(0, 23), wide(1, 5), wide(1, 5)); break;
+            case 5: both(run, call, net(), layer(), nearBorder(31), nearBorder(23), wide(1, 1 + random(5)), wide(1, 1 + random(5))); break;
             case 6: both(run, call); break;
             case 7: both(run, call, planeNumber(), number(0, 4)); break;
             case 8: both(run, call, planeNumber(), number(0, 2), number(0, 2), number(0, 60), number(0, 1)); break;
