@@ -478,20 +478,6 @@ public final class BoundaryTest extends Check {
             due("the last but one of spoke " + k + " is", "1111", () -> spokesFilled(g, 0));
         }
 
-        long[][] oneOff = {{30, 12}, {16, 22}, {1, 12}, {16, 1}};
-        for (int k = 0; k < 4; k++) {
-            long[] place = oneOff[k];
-            PlaneFills g = whole();
-            g.rule(MOAT, 4);
-            g.pad(1, 0, place[0], place[1], 1, 1);
-            g.fill();
-            due("spoke " + k + " reaches over the border, its cell on the board is filled", "1111", () -> spokesFilled(g, 0));
-            g.rule(GAP, 0);
-            g.pad(2, 0, g.spoke(0, k, 1), g.spoke(0, k, 2), 1, 1);
-            g.fill();
-            due("spoke " + k + " reaches over the border, its cell on the board is not", left[k], () -> spokesFilled(g, 0));
-        }
-
         says("the x (1) and y (2) of its CELL next to the PAD (also off the board, or when MOAT is 0)");
         due("at the first corner", "1,0 0,1 -1,0 0,-1", () -> spokeCells(f, 1));
         due("at the last corner", "32,23 31,24 30,23 31,22", () -> spokeCells(f, 2));
@@ -513,6 +499,40 @@ public final class BoundaryTest extends Check {
         }
         index("spoke 4", () -> f.spoke(0, 4, 1));
         index("what 3", () -> f.spoke(0, 0, 3));
+    }
+
+    /** A pad so far off the border that a spoke has only some cells on the board, and each of them cut in turn. */
+    private static void spokesOverBorders() {
+        says("A PAD's SPOKES 0 .. 3 are the CELLS that are off it by 1 to MOAT to the right, above, to the left, below; "
+            + "CELLS are x 0 .. 31, y 0 .. 23");
+        int[] stepX = {1, 0, -1, 0};
+        int[] stepY = {0, 1, 0, -1};
+        for (int k = 0; k < 4; k++) {
+            int spoke = k;
+            for (int cells = 0; cells <= 4; cells++) {
+                String what = "spoke " + k + " of MOAT 4 with " + cells + " cells on the board";
+                long x = k == 0 ? 31 - cells : k == 2 ? cells : 16;
+                long y = k == 1 ? 23 - cells : k == 3 ? cells : 12;
+                PlaneFills f = whole();
+                f.rule(GAP, 0);
+                f.rule(MOAT, 4);
+                f.pad(1, 0, x, y, 1, 1);
+                f.fill();
+                due(what + ", all filled", cells > 0 ? 1 : 0, () -> f.spoke(0, spoke, 0));
+                for (int n = 1; n <= cells; n++) {
+                    PlaneFills g = whole();
+                    g.rule(GAP, 0);
+                    g.rule(MOAT, 4);
+                    g.pad(1, 0, x, y, 1, 1);
+                    g.pad(2, 0, x + n * stepX[k], y + n * stepY[k], 1, 1);
+                    g.fill();
+                    due(what + ", cell " + n + " cut", 0, () -> g.spoke(0, spoke, 0));
+                    int shorter = n - 1;
+                    g.rule(MOAT, shorter);
+                    due(what + ", MOAT now ends ahead of the cut " + n, shorter > 0 ? 1 : 0, () -> g.spoke(0, spoke, 0));
+                }
+            }
+        }
     }
 
     private static void stitches() {
@@ -717,12 +737,66 @@ public final class BoundaryTest extends Check {
         due("pad", -1, () -> f.pad(50, 0, 0, 0, 32, 24));
         due("nothing would change", true, () -> f.changed(0, 0, 31, 23));
         due("nor does it", 8, f::fill);
-        index("a wrong plane of a full object", () -> f.plane(0, 1, 0));
-        argument("a wrong net of a full object", () -> f.plane(100, 0, 0));
-        index("a wrong obstacle of a full object", () -> f.obstacle(0, -1, 0, 0, 0));
-        argument("a wrong radius of a full object", () -> f.obstacle(0, 0, 0, 0, -1));
-        index("a wrong pad of a full object", () -> f.pad(0, 1, 0, 0, 1, 1));
-        argument("a wrong size of a full object", () -> f.pad(0, 0, 0, 0, 0, 0));
+    }
+
+    /** The document names no case in which a wrong argument is not told, a full table neither. */
+    private static void wrongArgumentsOfFullTables() {
+        PlaneFills f = new PlaneFills(2);
+        for (int k = 0; k < 8; k++) {
+            f.plane(k, 0, 0);
+        }
+        for (int k = 0; k < 20; k++) {
+            f.obstacle(1, 0, 0, 0, 0);
+        }
+        for (int k = 0; k < 10; k++) {
+            f.pad(1, 0, 0, 0, 1, 1);
+        }
+        says("IndexOutOfBoundsException, when there is no such layer");
+        for (int bad : new int[] {LOW, -1, 2, FAR}) {
+            index("plane, full, layer " + bad, () -> f.plane(0, bad, 0));
+            index("obstacle, full, layer " + bad, () -> f.obstacle(0, bad, 0, 0, 0));
+            index("pad, full, layer " + bad, () -> f.pad(0, bad, 0, 0, 1, 1));
+            index("plane, full, both wrong, layer " + bad, () -> f.plane(-1, bad, 101));
+            index("obstacle, full, both wrong, layer " + bad, () -> f.obstacle(-1, bad, 33, 25, 21));
+            index("pad, full, both wrong, layer " + bad, () -> f.pad(-1, bad, 32, 24, 0, 0));
+        }
+        says("IllegalArgumentException, when it is no net");
+        for (int bad : new int[] {LOW, -1, 100, FAR}) {
+            argument("plane, full, net " + bad, () -> f.plane(bad, 0, 0));
+            argument("obstacle, full, net " + bad, () -> f.obstacle(bad, 0, 0, 0, 0));
+            argument("pad, full, net " + bad, () -> f.pad(bad, 0, 0, 0, 1, 1));
+        }
+        says("or the rank not -100 .. 100");
+        argument("plane, full, rank -101", () -> f.plane(0, 0, -101));
+        argument("plane, full, rank 101", () -> f.plane(0, 0, 101));
+        says("or corner, or r not 0 .. 20");
+        long[][] discs = {{-1, 0, 0}, {33, 0, 0}, {0, -1, 0}, {0, 25, 0}, {0, 0, -1}, {0, 0, 21}};
+        for (long[] v : discs) {
+            argument("obstacle, full, " + v[0] + ", " + v[1] + ", " + v[2], () -> f.obstacle(0, 0, v[0], v[1], v[2]));
+        }
+        says("or does not lie on the board (w and h at least 1)");
+        long[][] pads = {{-1, 0, 1, 1}, {32, 0, 1, 1}, {0, -1, 1, 1}, {0, 24, 1, 1}, {0, 0, 0, 1}, {0, 0, 1, 0},
+            {0, 0, 33, 1}, {0, 0, 1, 25}};
+        for (long[] v : pads) {
+            argument("pad, full, " + v[0] + ", " + v[1] + ", " + v[2] + ", " + v[3], () -> f.pad(0, 0, v[0], v[1], v[2], v[3]));
+        }
+        says("IllegalArgumentException, when it is no corner");
+        for (int ring = 0; ring < 4; ring++) {
+            box(f, 0, 0, 0, 1, 1);
+        }
+        for (int k = 0; k < 12; k++) {
+            f.corner(1, 0, 0);
+        }
+        for (int plane = 0; plane < 2; plane++) {
+            int on = plane;
+            due("corner, full, plane " + on, false, () -> f.corner(on, 32, 24));
+            argument("corner, full, x -1, plane " + on, () -> f.corner(on, -1, 0));
+            argument("corner, full, x 33, plane " + on, () -> f.corner(on, 33, 0));
+            argument("corner, full, y -1, plane " + on, () -> f.corner(on, 0, -1));
+            argument("corner, full, y 25, plane " + on, () -> f.corner(on, 0, 25));
+        }
+        says("NONE when there are 8 .. 20 .. 10");
+        due("right ones", "-1 -1 -1", () -> f.plane(0, 0, 0) + " " + f.obstacle(0, 0, 0, 0, 0) + " " + f.pad(0, 0, 0, 0, 1, 1));
     }
 
     public static void main(String[] args) {
@@ -741,11 +815,13 @@ public final class BoundaryTest extends Check {
         inOffBoard();
         islands();
         spokes();
+        spokesOverBorders();
         stitches();
         hatches();
         changes();
         necks();
         refusedCallsLeaveNothing();
+        wrongArgumentsOfFullTables();
         end();
     }
 }
